@@ -1057,11 +1057,11 @@ public final class HotelSilver {
             return must;
         }
 
-        /** A LOT that lasts to the end anyway is in no PLAN of THE FEWEST; one that FULL doesn't save is in none. */
+        /** Replating that doesn't make a LOT last longer, as far as the PLAN goes, is in no PLAN of THE FEWEST. */
         private int lotsThatMay(int months, int state) {
             int may = 0;
             for (int lot = 0; lot < LOTS; lot++) {
-                boolean helps = renewed[lot] > 0 && lastsStill(state, lot) < months;
+                boolean helps = lastsStill(state, lot) < Math.min(months, renewed[lot]);
                 may |= (helps ? 1 : 0) << lot;
             }
             return may;

@@ -813,14 +813,12 @@ public final class HotelSilver {
             Arrays.fill(aheadOfEvent, NONE);
             boolean cheaper = true;
             for (int pass = 0; pass < SOURCES + EVENTS && cheaper; pass++) {
-                boolean there = reachEvents();
-                boolean back = reachSources();
-                cheaper = there || back;
+                reachEvents();
+                cheaper = reachSources();
             }
         }
 
-        private boolean reachEvents() {
-            boolean cheaper = false;
+        private void reachEvents() {
             for (int source = 0; source < HOUSES + size; source++) {
                 if (wayToSource[source] >= NO_WAY) {
                     continue;
@@ -830,11 +828,9 @@ public final class HotelSilver {
                     if (each < NO_WAY && wayToSource[source] + each < wayToEvent[j]) {
                         wayToEvent[j] = wayToSource[source] + each;
                         aheadOfEvent[j] = source;
-                        cheaper = true;
                     }
                 }
             }
-            return cheaper;
         }
 
         private boolean reachSources() {

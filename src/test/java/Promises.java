@@ -293,6 +293,9 @@ public final class Promises {
     x.book(4, 1, 1);
     x.weigh(4, 1, 0, 0);
     due(12, "the last house", x.worst(), 4);
+    x.book(0, 1, 2);
+    x.weigh(0, 1, 0, 0);
+    due(12, "the first house", x.worst(), 0);
   }
 
   private static void farness() {
@@ -409,6 +412,19 @@ public final class Promises {
     z.book(4, 1, 1);
     // With one piece more nobody has to come back; it lies 1 from both.
     due(16, "one piece more", z.carried(1), 499 * 99 + 1);
+    // HOUSES in a row: a go of 2 brings a piece one HOUSE on, any other go costs 99. Each EVENT in HOUSE 0 is a DAY more.
+    HotelSilver row = withKinds();
+    row.book(0, 0, 2);
+    for (int a = 0; a < 5; a++)
+      for (int b = 0; b < a; b++) row.farness(a, b, a - b == 1 ? 2 : 99);
+    row.event(990, 4, 0, 1);
+    int[] inGoes = {99, 99, 99, 8, 8, 8};
+    for (int more = 0; more < 6; more++) {
+      due(16, "in " + (more + 1) + " goes", row.carried(0), inGoes[more]);
+      row.event(100 - more, 0, 0, 1);
+    }
+    row.event(991, 0, 0, 2);
+    due(16, "and back in one", row.carried(0), 8 + 99);
   }
 
   private static void inNeed() {
@@ -552,6 +568,15 @@ public final class Promises {
     due(21, "three hands for three", y.plan(8), 21);
     y.crew(2);
     due(21, "two hands for three", y.plan(8), NONE);
+
+    HotelSilver all = new HotelSilver();
+    all.crew(4);
+    for (int lot = 0; lot < 4; lot++) all.lot(lot, 0, 0);
+    for (int months = 1; months <= 8; months++) {
+      due(21, "all at once", all.plan(months), 4);
+      due(22, "all at once", all.planned(months, 0), 15);
+      due(22, "never more", all.planned(months, months - 1), months == 1 ? 15 : 0);
+    }
 
     HotelSilver z = new HotelSilver();
     z.lot(0, 0, 0);

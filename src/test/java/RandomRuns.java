@@ -564,6 +564,40 @@ public final class RandomRuns {
           due("told", real.told(s, u, v), plain.told(s, u, v), s, u, v); }
       }
     }
+    /** All EVENTS of one KIND, which is where many ways cross. */
+    void journeys() {
+      real.kind(1, 1);
+      plain.kind(1, 1);
+      int most = pick(1, 3, 20, 999), farthest = pick(1, 5, 99), days = from(0, 11), needs = pick(1, 2, most / 2 + 1, 500);
+      for (int a = 0; a < 5; a++) {
+        int n = from(0, most);
+        due("book", real.book(a, 0, n), plain.book(a, 0, n), a, 0, n);
+        for (int b = 0; b < a; b++) {
+          int f = from(0, farthest);
+          due("farness", real.farness(a, b, f), plain.farness(a, b, f), a, b, f);
+        }
+      }
+      for (int e = 0; e < 12; e++) {
+        int d = from(0, days), h = from(0, 4), n = Math.min(500, from(1, needs));
+        due("event", real.event(d, h, 0, n), plain.event(d, h, 0, n), d, h, 0, n);
+        due("carried", real.carried(0), plain.carried(0), e);
+        due("inNeed", real.inNeed(0), plain.inNeed(0), e);
+        if (plain.inNeed(0) != -9) due("off", real.off(e), plain.off(e), e);
+      }
+      for (int e = 0; e < 12; e++) due("costs", real.costs(e), plain.costs(e), e);
+    }
+    void plans() {
+      for (int l = 0; l < 4; l++) {
+        int[] v = {from(0, 150), from(60, 150), from(pick(0, 8), 60), from(0, 40)};
+        for (int w = 0; w < 4; w++) due("lot", real.lot(l, w, v[w]), plain.lot(l, w, v[w]), l, w, v[w]);
+      }
+      int n = from(0, 4);
+      due("crew", real.crew(n), plain.crew(n), n);
+      for (int m = 1; m <= 8; m++) {
+        due("plan", real.plan(m), plain.plan(m), m);
+        for (int i = 0; i < m; i++) due("planned", real.planned(m, i), plain.planned(m, i), m, i);
+      }
+    }
     void all() {
       for (int what = -1; what <= 7; what++) due("count", real.count(what), plain.count(what), what);
     }
@@ -586,6 +620,10 @@ public final class RandomRuns {
     int first = args.length > 1 ? Integer.parseInt(args[1]) : 0;
     for (int seed = first; seed < first + rounds; seed++)
       for (int part = 0; part <= 5; part++) new Run(seed * 6 + part).go(part, 300);
+    for (int seed = first; seed < first + rounds; seed++) {
+      new Run(seed).journeys();
+      new Run(seed).plans();
+    }
     System.out.println(wrong == 0 ? "all answers are as due" : wrong + " answers are not as due");
     if (wrong != 0) System.exit(1);
   }
